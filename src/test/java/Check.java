@@ -20,6 +20,11 @@ final class Check {
     if (wrong <= MOST_TOLD) System.out.println(what + " is\n  " + got + ", due is\n  " + want);
   }
 
+  static void fault(String what) {
+    wrong++;
+    if (wrong <= MOST_TOLD) System.out.println(what);
+  }
+
   /** The call is refused with this number: it is counted once, no other one is, and nothing else changes. */
   static void refused(String what, BeforeTheEnd x, int number, LongSupplier call) {
     refused(what, x, number, number, call);

@@ -323,6 +323,8 @@ public final class PromisesTest {
     BeforeTheEnd y = Check.with(tree, "pb0100:12;pb010:2;pl0100:1;pl080:1;");
     pressBits("bold 80", y, 0, 0b1111010);
     pressBits("bold 0 with a guess", y, 1, 0b1010110);
+    BeforeTheEnd rare = Check.with("w0,1,0;w1,9,0;w1,1,9;w2,9,9;w2,1,0;w5,9,9;w5,1,1;", "pb010:1;");
+    pressBits("bold 0 with a guess of less than a hundredth", rare, 0, 0b10100110);
     pressBits("learn before a wrong one", y, 2, 0b0101000);
     pressBits("learn 80", y, 3, 0b0101010);
     BeforeTheEnd z = Check.with(tree, "pt00:1;pa0100:12;pa00:2;");
@@ -442,6 +444,9 @@ public final class PromisesTest {
     mean("none presses at word 0", x.dull(0), x.dull(1), 2, 3);
     Check.quiz(x, "ps050:12;");
     mean("none waits", x.dull(0), x.dull(1), 0, 1);
+    BeforeTheEnd one = Check.with("w0,1,1;w0,1,2;", "pe00:12;");
+    mean("ends of one word", one.dull(0), one.dull(1), 1, 1);
+    pressBits("ends of one word", one, 0, 6);
     BeforeTheEnd open = Check.with(OPEN);
     Check.refusedLong("part", open, -2, () -> open.dull(-1));
     Check.refusedLong("open", open, -3, () -> open.dull(1));
@@ -516,7 +521,11 @@ public final class PromisesTest {
     due("a rests", x.player(0, 4), x.reply(0, 2));
     due("b rests", x.player(1, 4), x.reply(1, 2));
     due("at rest already", x.rest(0, 1), 1);
-    due("one alone", Check.with("w0,1,1;", "pt10:2;pt10:3;").rest(0, 1), 1);
+    due("none has anything to tell", Check.with("w0,1,1;", "pt10:2;pt10:3;").rest(0, 1), 1);
+    restRounds("the slower one leaves it to the other in round 2", "w0,1,0;w1,3,3;", "pt20:3;pt10:3;", 3, 0, 2);
+    restRounds("one each", "w0,1,0;w1,1,2;", "pt20:1;pt10:2;", 2, 0, 2);
+    // Pressing at WORD 1 brings 5, at END 4 20/3: each goes ahead of the other, till the slower one has nothing.
+    restRounds("no rest", "w0,1,0;w1,1,0;w2,1,2;w1,2,1;", "pt20:1;pt10:1;", -9, 2, 2);
     Check.refused("one twice", x, -1, () -> x.rest(0, 0));
     Check.refused("no a", x, -1, () -> x.rest(3, 2));
     Check.refused("no b", x, -1, () -> x.rest(2, -1));
@@ -525,6 +534,13 @@ public final class PromisesTest {
     BeforeTheEnd open = Check.with(OPEN, "pt01:1;pe01:1;pt01:2;");
     Check.refused("another kind in an open tree", open, -2, () -> open.rest(0, 1));
     Check.refused("open", open, -3, () -> open.rest(0, 2));
+  }
+
+  private static void restRounds(String what, String tree, String players, int want, int setA, int setB) {
+    BeforeTheEnd x = Check.with(tree, players);
+    due(what, x.rest(0, 1), want);
+    due(what + ": a", x.player(0, 4), setA);
+    due(what + ": b", x.player(1, 4), setB);
   }
 
   // Promise 22
@@ -537,6 +553,13 @@ public final class PromisesTest {
     due("but 66", x.law(66), 0);
     due("nothing", x.law(0), 0);
     due("wrong is as it was", x.points(1, 5), 5);
+    BeforeTheEnd z = Check.with("w0,1,0;w1,9,1;w1,9,1;w1,1,1;w1,5,2;", "pa00:1;");
+    z.points(2, 5);
+    // It waits once 19/24 * 5 is less than 5/24 * WRONG.
+    due("the greatest wrong", z.law(100), 20);
+    BeforeTheEnd u = Check.with("w0,1,0;w1,8,1;w1,2,2;", "pa00:1;");
+    u.points(2, 5);
+    due("as good at the greatest wrong", u.law(100), -9);
     BeforeTheEnd y = Check.with(TREE, "ps00:12;");
     due("never", y.law(1), -9);
     due("wrong is as it was behind never", y.points(1, 5), 5);
@@ -663,7 +686,8 @@ public final class PromisesTest {
     extreme("two", withFacts(1022, 6, 12, 14), false, 2, 1, 2, 0, 3);
     extreme("five", withFacts(62, 30, 14, 6, 2), false, 1, 4, 0, 1, 2, 3);
     BeforeTheEnd x = withFacts(2);
-    Check.refused("below", x, -4, () -> x.soon(Integer.MIN_VALUE));
+    Check.refused("below", x, -4, () -> x.soon(-2));
+    Check.refused("far below", x, -4, () -> x.soon(Integer.MIN_VALUE));
   }
 
   // Promise 30
