@@ -14,6 +14,12 @@ final class Check {
     if (wrong <= MOST_TOLD) System.out.println(what + " answered " + got + ", due is " + want);
   }
 
+  /** A fraction in least terms, told by its two parts. */
+  static void mean(String what, long above, long below, long wantAbove, long wantBelow) {
+    due(what + ", above the line", above, wantAbove);
+    due(what + ", below the line", below, wantBelow);
+  }
+
   static void due(String what, String got, String want) {
     if (got.equals(want)) return;
     wrong++;
@@ -71,6 +77,15 @@ final class Check {
     }
     for (int i = -1; i < x.count(3); i++) text.append(x.late(i)).append(' ').append(x.soon(i)).append(' ');
     if (x.whole() == 1) text.append(x.nobody(0)).append('/').append(x.nobody(1)).append(' ').append(x.dull(0));
+    return text.toString();
+  }
+
+  /** All that can be found out of an object, THE TAPE, the ROW and THE IMAGE too, but for the REFUSALS: it is spent then. */
+  static String spent(BeforeTheEnd x) {
+    StringBuilder text = new StringBuilder(state(x));
+    text.append("| quiz ").append(x.quiz()).append(" judge ").append(x.judge(5));
+    text.append("| then ").append(state(x));
+    text.append("| on ").append(x.on()).append(' ').append(state(x));
     return text.toString();
   }
 

@@ -24,6 +24,7 @@ public final class ModelTest {
     int runs = args.length > 0 ? Integer.parseInt(args[0]) : RUNS;
     for (int run = 0; run < runs; run++) new ModelTest(run).play();
     new ModelTest(-1).playGreatest();
+    new ModelTest(-2).playLongRest();
     Check.exit("ModelTest");
   }
 
@@ -58,6 +59,18 @@ public final class ModelTest {
     due("reply", x.reply(2, 1), m.reply(2, 1));
     due("law", x.law(100), m.law(100));
     for (int p = 0; p < 4; p++) due("mostEarly", x.mostEarly(p), m.mostEarly(p));
+  }
+
+  /** Nine rounds in which a SET changes, and one in which none does. */
+  private void playLongRest() {
+    quiz("w0,2,0;w0,1,0;w1,3,0;w2,7,0;w4,8,0;w5,7,0;w6,6,0;w5,1,0;");
+    quiz("w7,9,0;w3,2,3;w1,8,1;w7,2,3;w4,1,3;w3,1,1;w2,6,3;w9,1,3;");
+    quiz("w8,6,1;w8,2,3;w9,5,2;w6,1,1;pt150:23;pt350:12;pe350:1;");
+    int[] points = {16, 6, 1, 0};
+    for (int what = 0; what < 4; what++) due("points", x.points(what, points[what]), m.points(what, points[what]));
+    due("setOf", x.setOf(1, 21400), m.setOf(1, 21400));
+    due("rest", x.rest(0, 1), m.rest(0, 1));
+    for (int p = 0; p < 2; p++) due("the SET", x.player(p, 4), m.player(p, 4));
   }
 
   private void compareAllMeans() {

@@ -51,11 +51,6 @@ public final class PromisesTest {
     Check.due(what, got, want);
   }
 
-  private static void mean(String what, long above, long below, long wantAbove, long wantBelow) {
-    due(what + " above", above, wantAbove);
-    due(what + " below", below, wantBelow);
-  }
-
   // Promise 1
   private static void newObject() {
     BeforeTheEnd x = new BeforeTheEnd();
@@ -237,11 +232,11 @@ public final class PromisesTest {
   // Promise 8
   private static void chance() {
     BeforeTheEnd x = Check.with(TREE);
-    mean("1 at 0", x.chance(0, 1, 0), x.chance(0, 1, 1), 5, 9);
-    mean("2 at 0", x.chance(0, 2, 0), x.chance(0, 2, 1), 1, 3);
-    mean("3 at 2", x.chance(2, 3, 0), x.chance(2, 3, 1), 1, 3);
-    mean("1 at 3", x.chance(3, 1, 0), x.chance(3, 1, 1), 1, 1);
-    mean("9 at 0", x.chance(0, 9, 0), x.chance(0, 9, 1), 0, 1);
+    Check.mean("1 at 0", x.chance(0, 1, 0), x.chance(0, 1, 1), 5, 9);
+    Check.mean("2 at 0", x.chance(0, 2, 0), x.chance(0, 2, 1), 1, 3);
+    Check.mean("3 at 2", x.chance(2, 3, 0), x.chance(2, 3, 1), 1, 3);
+    Check.mean("1 at 3", x.chance(3, 1, 0), x.chance(3, 1, 1), 1, 1);
+    Check.mean("9 at 0", x.chance(0, 9, 0), x.chance(0, 9, 1), 0, 1);
     BeforeTheEnd open = Check.with(OPEN);
     for (int word : new int[] {-1, 7, 24}) {
       Check.refusedLong("no word", x, -1, () -> x.chance(word, 1, 5));
@@ -395,19 +390,19 @@ public final class PromisesTest {
   // Promises 14, 15
   private static void winsAndWorth() {
     BeforeTheEnd x = Check.with(TREE, "ps950:12;pe00:23;");
-    mean("wins 0", x.wins(0, 0), x.wins(0, 1), 5, 9);
+    Check.mean("wins 0", x.wins(0, 0), x.wins(0, 1), 5, 9);
     BeforeTheEnd y = Check.with("w0,4,0;w0,2,0;w1,1,1;w1,1,2;w2,3,3;w2,6,1;", "ps960:13;pe10:23;");
-    mean("wins of one who presses at a half", y.wins(0, 0), y.wins(0, 1), 5, 9);
-    mean("wins 1", y.wins(1, 0), y.wins(1, 1), 4, 9);
-    mean("worth 0", y.worth(0, 0), y.worth(0, 1), 5, 1);
-    mean("worth 1", y.worth(1, 0), y.worth(1, 1), 40, 9);
+    Check.mean("wins of one who presses at a half", y.wins(0, 0), y.wins(0, 1), 5, 9);
+    Check.mean("wins 1", y.wins(1, 0), y.wins(1, 1), 4, 9);
+    Check.mean("worth 0", y.worth(0, 0), y.worth(0, 1), 5, 1);
+    Check.mean("worth 1", y.worth(1, 0), y.worth(1, 1), 40, 9);
     y.points(2, 3);
-    mean("worth with early", y.worth(0, 0), y.worth(0, 1), 17, 3);
+    Check.mean("worth with early", y.worth(0, 0), y.worth(0, 1), 17, 3);
     BeforeTheEnd z = Check.with(TREE, "pt00:2;");
     z.setOf(0, 6);
     z.points(1, 20);
-    mean("below 0", z.worth(0, 0), z.worth(0, 1), -10, 3);
-    mean("a third", z.wins(0, 0), z.wins(0, 1), 1, 3);
+    Check.mean("below 0", z.worth(0, 0), z.worth(0, 1), -10, 3);
+    Check.mean("a third", z.wins(0, 0), z.wins(0, 1), 1, 3);
     BeforeTheEnd open = Check.with(OPEN, "pe01:1;");
     Check.refusedLong("wins: no player", open, -1, () -> open.wins(1, 2));
     Check.refusedLong("wins: player -1", open, -1, () -> open.wins(-1, 0));
@@ -421,11 +416,11 @@ public final class PromisesTest {
   // Promise 16
   private static void nobody() {
     BeforeTheEnd x = Check.with(TREE);
-    mean("without players", x.nobody(0), x.nobody(1), 1, 1);
+    Check.mean("without players", x.nobody(0), x.nobody(1), 1, 1);
     Check.quiz(x, "pe00:1;");
-    mean("one knows 1", x.nobody(0), x.nobody(1), 4, 9);
+    Check.mean("one knows 1", x.nobody(0), x.nobody(1), 4, 9);
     Check.quiz(x, "pe00:23;");
-    mean("all is known", x.nobody(0), x.nobody(1), 0, 1);
+    Check.mean("all is known", x.nobody(0), x.nobody(1), 0, 1);
     BeforeTheEnd open = Check.with(OPEN);
     Check.refusedLong("part", open, -2, () -> open.nobody(2));
     Check.refusedLong("open", open, -3, () -> open.nobody(0));
@@ -434,18 +429,18 @@ public final class PromisesTest {
   // Promise 17
   private static void dull() {
     BeforeTheEnd x = Check.with(TREE, "pe00:123;");
-    mean("all wait", x.dull(0), x.dull(1), 1, 1);
+    Check.mean("all wait", x.dull(0), x.dull(1), 1, 1);
     Check.quiz(x, "ps060:1;");
-    mean("one presses at word 2", x.dull(0), x.dull(1), 2, 3);
+    Check.mean("one presses at word 2", x.dull(0), x.dull(1), 2, 3);
     Check.quiz(x, "pt90:3;");
     x.setOf(2, 2);
-    mean("told a word without a guess", x.dull(0), x.dull(1), 2, 3);
+    Check.mean("told a word without a guess", x.dull(0), x.dull(1), 2, 3);
     x.setOf(2, 5);
-    mean("none presses at word 0", x.dull(0), x.dull(1), 2, 3);
+    Check.mean("none presses at word 0", x.dull(0), x.dull(1), 2, 3);
     Check.quiz(x, "ps050:12;");
-    mean("none waits", x.dull(0), x.dull(1), 0, 1);
+    Check.mean("none waits", x.dull(0), x.dull(1), 0, 1);
     BeforeTheEnd one = Check.with("w0,1,1;w0,1,2;", "pe00:12;");
-    mean("ends of one word", one.dull(0), one.dull(1), 1, 1);
+    Check.mean("ends of one word", one.dull(0), one.dull(1), 1, 1);
     pressBits("ends of one word", one, 0, 6);
     BeforeTheEnd open = Check.with(OPEN);
     Check.refusedLong("part", open, -2, () -> open.dull(-1));
@@ -458,14 +453,14 @@ public final class PromisesTest {
     x.points(1, 0);
     x.points(2, 2);
     // WORD 1: PRESS 1/2 * 12 = 6, WAIT 10. WORD 2: PRESS 2/3 * 12 = 8, WAIT 20/3.
-    mean("waiting", x.value(0, 1, 0), x.value(0, 1, 1), 10, 1);
-    mean("pressing", x.value(0, 2, 0), x.value(0, 2, 1), 8, 1);
-    mean("word 0", x.value(0, 0, 0), x.value(0, 0, 1), 28, 3);
-    mean("an end", x.value(0, 3, 0), x.value(0, 3, 1), 10, 1);
-    mean("an end of another answer", x.value(0, 6, 0), x.value(0, 6, 1), 0, 1);
-    mean("one without a guess", x.value(1, 0, 0), x.value(1, 0, 1), 0, 1);
+    Check.mean("waiting", x.value(0, 1, 0), x.value(0, 1, 1), 10, 1);
+    Check.mean("pressing", x.value(0, 2, 0), x.value(0, 2, 1), 8, 1);
+    Check.mean("word 0", x.value(0, 0, 0), x.value(0, 0, 1), 28, 3);
+    Check.mean("an end", x.value(0, 3, 0), x.value(0, 3, 1), 10, 1);
+    Check.mean("an end of another answer", x.value(0, 6, 0), x.value(0, 6, 1), 0, 1);
+    Check.mean("one without a guess", x.value(1, 0, 0), x.value(1, 0, 1), 0, 1);
     x.points(1, 5);
-    mean("with wrong ones", x.value(0, 2, 0), x.value(0, 2, 1), 20, 3);
+    Check.mean("with wrong ones", x.value(0, 2, 0), x.value(0, 2, 1), 20, 3);
     BeforeTheEnd open = Check.with(OPEN, "pe01:1;");
     Check.refusedLong("no player", open, -1, () -> open.value(1, 0, 2));
     Check.refusedLong("no word", open, -1, () -> open.value(0, 4, 2));
