@@ -16,6 +16,7 @@ public final class EveningEdgesTest {
     lateAndSoonOfEachCount();
     lateAndSoonOfLikeOrders();
     lateAndSoonOfAll();
+    lateAndSoonFollowTheFacts();
     drawsAtTheEdges();
     drawsByWeights();
     drawsAtEachWord();
@@ -190,6 +191,29 @@ public final class EveningEdgesTest {
     int back = 0;
     for (int i = 0, over = digits; i < 5; i++, over /= 10) back = back * 10 + over % 10;
     return back;
+  }
+
+  private static void lateAndSoonFollowTheFacts() {
+    BeforeTheEnd x = new BeforeTheEnd();
+    x.image();
+    int[] facts = {1022, 62, 6, 2, 0};
+    int[] late = {6, 6, 6, 4, 6};
+    int[] soon = {6, 6, 6, 1, 1};
+    for (int i = 0; i < 5; i++) {
+      x.fact(facts[i]);
+      due("late of " + (i + 1), x.late(-1), late[i]);
+      due("soon of " + (i + 1), x.soon(-1), soon[i]);
+      due("soon of " + (i + 1) + ", again", x.soon(0), i < 3 ? 0 : 3);
+    }
+    x.on();
+    due("soon of none again", x.soon(-1), 6);
+    due("late of none again", x.late(-1), 6);
+    x.fact(2);
+    due("late of another one", x.late(-1), 1);
+    x.fact(6);
+    due("late of two", x.late(-1), 2);
+    due("the wide one first", x.late(0), 1);
+    due("soon of two", x.soon(0), 0);
   }
 
   /** The seed next after z, in a long that does not wrap around. */

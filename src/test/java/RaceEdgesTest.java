@@ -214,10 +214,12 @@ public final class RaceEdgesTest {
     due("half of 100", wrongWithLearner("pl1100"), 11);
     due("one of KIND s has all of it", wrongWithLearner("ps14"), 12);
     due("one of KIND s has all of 20", wrongWithLearner("ps120"), 11);
-    BeforeTheEnd x = Check.with(RARE, "pl010:1;pt90:8;");
-    x.setOf(1, 4);
-    due("not as long as none was", x.run(7, 1), 4);
+    BeforeTheEnd x = Check.with(RARE, "pl02:1;pt90:8;");
+    runs("not as long as none was", x, 7, -9, 4, 1);
     due("nor where it is asked", pressed(x, 0), 80);
+    x.setOf(1, 2);
+    runs("but then", x, 7, -9, 1, 2);
+    runs("but then, at WORD 2", x, 5, -9, 1, 2);
   }
 
   // At WORDS told, and at no others.
@@ -385,6 +387,10 @@ public final class RaceEdgesTest {
     Check.mean("NOBODY never, by BOTH", x.nobody(0), x.nobody(1), 0, 1);
     x.points(3, 0);
     Check.mean("NOBODY by a third", x.nobody(0), x.nobody(1), 1, 3);
+    for (String players : new String[] {"ps00:1;pe00:1;", "pe00:1;ps00:1;", "pe00:1;pe00:1;pe00:1;ps00:1;"}) {
+      BeforeTheEnd z = Check.with(THIRD, players);
+      Check.mean("one of several presses", z.dull(0), z.dull(1), 0, 1);
+    }
     BeforeTheEnd y = Check.with("w0,1,1;w0,1,2;", "ps00:12;");
     Check.mean("ENDS of LENGTH 1 are DULL", y.dull(0), y.dull(1), 1, 1);
   }
@@ -532,6 +538,16 @@ public final class RaceEdgesTest {
     due("50 of a half", x.law(50), 0);
     due("51 of a half", x.law(51), -9);
     due("100 of a half", x.law(100), -9);
+    // One presses at WORD 6, to which one question of a thousand comes, then at WORD 2, to which one of ten does.
+    BeforeTheEnd z = Check.with("w0,9,1;w0,1,0;w2,9,1;w2,1,0;w4,9,1;w4,1,0;w6,1,2;", "pt00:2;");
+    z.setOf(0, 64);
+    Check.mean("DULL but for a thousandth", z.dull(0), z.dull(1), 999, 1000);
+    due("99 of 99.9", z.law(99), 0);
+    due("100 of 99.9", z.law(100), -9);
+    z.setOf(0, 4);
+    due("90 of 90", z.law(90), 0);
+    due("91 of 90", z.law(91), -9);
+    lawAtTheGreatestWrong();
     BeforeTheEnd y = Check.with(THIRD, "pa00:1;");
     due("PRESS is WAIT with WRONG 0", y.law(100), 1);
     due("0 hundredths of none", y.law(0), 0);
@@ -545,6 +561,23 @@ public final class RaceEdgesTest {
       y.points(2, early);
       due("EARLY " + early, y.law(1), early / 2 + 1);
     }
+  }
+
+  private static void lawAtTheGreatestWrong() {
+    // One waits, as soon as 1/9 * WRONG is above 8/9 * EARLY, or 1/5 * WRONG above 4/5 * EARLY.
+    BeforeTheEnd x = Check.with("w0,1,0;w1,8,1;w1,1,2;", "pa00:1;");
+    BeforeTheEnd y = Check.with("w0,1,0;w1,4,1;w1,1,2;", "pa00:1;");
+    x.points(2, 2);
+    y.points(2, 4);
+    due("17 is the least", x.law(100), 17);
+    due("17 is the least here, too", y.law(100), 17);
+    y.points(2, 5);
+    due("21 would be the least", y.law(100), -9);
+    // 5/24 * WRONG above 19/24 * EARLY.
+    BeforeTheEnd z = Check.with("w0,1,0;w1,9,1;w1,1,1;w1,9,1;w1,5,2;", "pa00:1;");
+    z.points(2, 5);
+    due("20 is the least", z.law(100), 20);
+    due("20 is the least for 1, too", z.law(1), 20);
   }
 
   // Of EARLY 0 .. 5 that with the greatest WINS of a PLAYER, of several the least.
@@ -561,6 +594,9 @@ public final class RaceEdgesTest {
     due("EARLY 4", x.mostEarly(0), 4);
     x.points(1, 3);
     due("more than EARLY 5", x.mostEarly(0), 0);
+    BeforeTheEnd y = Check.with("w0,1,0;w1,2,1;w1,5,2;", "pa90:1;pe00:12;");
+    y.points(1, 2);
+    due("just EARLY 5", y.mostEarly(0), 5);
     for (int early = 0; early <= 5; early++) {
       x.points(2, early);
       x.mostEarly(0);

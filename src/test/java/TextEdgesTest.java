@@ -264,6 +264,11 @@ public final class TextEdgesTest {
       quiz("pe00:" + a + "23456789;", a == 1 ? 1 : -2000);
     }
     quiz("pe00:1;pe00:1;", 2);
+    BeforeTheEnd x = new BeforeTheEnd();
+    due("told twice", Check.quiz(x, "pe00:11;"), -2000);
+    due("the next one once", Check.quiz(x, "pe00:1;w0,1,1;"), 2);
+    due("a digit too many", Check.quiz(x, "pe00:11"), -1007);
+    due("the next one once, too", Check.quiz(x, "pe00:1;"), 1);
     quiz("pe00:11;pe00:1;", -2000);
   }
 
