@@ -1,6 +1,9 @@
 import java.util.function.LongSupplier;
 
-/** Counts the answers that are not as due; a test's main method ends with its exit(). */
+/**
+ * Counts the answers that are not as due; a test's main method ends with its exit(). No test makes more than the 512
+ * calls of one object that the document promises.
+ */
 final class Check {
   private static final int MOST_TOLD = 40;
   private static int wrong = 0;
@@ -31,7 +34,7 @@ final class Check {
     if (wrong <= MOST_TOLD) System.out.println(what);
   }
 
-  /** The call is refused with this number: it is counted once, no other one is, and nothing else changes. */
+  /** The call is refused with this number: it is counted once, no other one is. That nothing else changes: RefusalsTest. */
   static void refused(String what, BeforeTheEnd x, int number, LongSupplier call) {
     refused(what, x, number, number, call);
   }
@@ -41,10 +44,8 @@ final class Check {
   }
 
   static void refused(String what, BeforeTheEnd x, int number, long answer, LongSupplier call) {
-    String before = state(x);
     long[] counts = refusals(x);
     due(what, call.getAsLong(), answer);
-    due("the state behind " + what, state(x), before);
     long[] after = refusals(x);
     for (int i = 0; i < counts.length; i++) {
       due("refusals -" + (i + 1) + " behind " + what, after[i], counts[i] + (i + 1 == -number ? 1 : 0));
@@ -61,12 +62,15 @@ final class Check {
   static String state(BeforeTheEnd x) {
     StringBuilder text = new StringBuilder();
     for (int what = 0; what <= 5; what++) text.append(x.count(what)).append(' ');
-    for (int w = 0; w < x.count(0); w++) {
+    int words = x.count(0);
+    int players = x.count(1);
+    int facts = x.count(3);
+    for (int w = 0; w < words; w++) {
       text.append("| w");
       for (int what = 0; what <= 4; what++) text.append(x.word(w, what)).append(' ');
       text.append(x.left(w));
     }
-    for (int p = 0; p < x.count(1); p++) {
+    for (int p = 0; p < players; p++) {
       text.append("| p");
       for (int what = 0; what <= 4; what++) text.append(x.player(p, what)).append(' ');
     }
@@ -75,7 +79,7 @@ final class Check {
       x.points(what, was);
       text.append("| ").append(was);
     }
-    for (int i = -1; i < x.count(3); i++) text.append(x.late(i)).append(' ').append(x.soon(i)).append(' ');
+    for (int i = -1; i < facts; i++) text.append(x.late(i)).append(' ').append(x.soon(i)).append(' ');
     if (x.whole() == 1) text.append(x.nobody(0)).append('/').append(x.nobody(1)).append(' ').append(x.dull(0));
     return text.toString();
   }
@@ -83,8 +87,10 @@ final class Check {
   /** All that can be found out of an object, THE TAPE, the ROW and THE IMAGE too, but for the REFUSALS: it is spent then. */
   static String spent(BeforeTheEnd x) {
     StringBuilder text = new StringBuilder(state(x));
-    text.append("| quiz ").append(x.quiz()).append(" judge ").append(x.judge(5));
-    text.append("| then ").append(state(x));
+    text.append("| quiz ").append(x.quiz()).append(" judge ").append(x.judge(5)).append("| then ");
+    for (int what = 0; what <= 5; what++) text.append(x.count(what)).append(' ');
+    int last = x.count(0) - 1;
+    for (int what = 0; what <= 4; what++) text.append(x.word(last, what)).append(' ');
     text.append("| on ").append(x.on()).append(' ').append(state(x));
     return text.toString();
   }

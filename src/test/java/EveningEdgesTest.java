@@ -31,6 +31,7 @@ public final class EveningEdgesTest {
     imageOfANewObject();
     imageOfAFullObject();
     imageOfEachPart();
+    imageOfSetsAndPoints();
     theLastImageCounts();
     whatStaysByOn();
     counts();
@@ -427,8 +428,13 @@ public final class EveningEdgesTest {
 
   private static void imageOfAFullObject() {
     BeforeTheEnd x = new BeforeTheEnd();
-    for (int w = 0; w < 22; w++) Check.quiz(x, "w" + w + ",1,0;");
-    Check.quiz(x, "w22,1,1;pt00:1;pt00:1;pt00:1;pt00:1;");
+    for (int w = 0; w < 22; w++) {
+      Check.feed(x, "w" + w + ",1,0;");
+      if (w % 8 == 7) x.quiz();
+    }
+    Check.feed(x, "w22,1,1;");
+    due("a TREE of 23", x.quiz(), 7);
+    Check.quiz(x, "pt00:1;pt00:1;pt00:1;pt00:1;");
     for (int p = 0; p < 4; p++) x.setOf(p, (1 << 24) - 1 - p);
     for (int i = 0; i < 5; i++) x.fact(2 << i);
     String then = Check.state(x);
@@ -455,14 +461,6 @@ public final class EveningEdgesTest {
     Check.quiz(x, "pe00:123;");
     x.on();
     Check.due("PLAYERS", Check.state(x), then);
-    x.setOf(0, 1);
-    x.on();
-    Check.due("SETS", Check.state(x), then);
-    for (int what = 0; what < 4; what++) {
-      x.points(what, 1 - what / 3);
-      x.on();
-      Check.due("POINTS " + what, Check.state(x), then);
-    }
     x.fact(12);
     x.on();
     Check.due("FACTS", Check.state(x), then);
@@ -476,6 +474,22 @@ public final class EveningEdgesTest {
     x.on();
     Check.quiz(x, "pt00:3;");
     due("nor has another one in its place", x.player(1, 4), 0);
+  }
+
+  private static void imageOfSetsAndPoints() {
+    BeforeTheEnd x = thirds("pt00:1;");
+    x.setOf(0, 6);
+    x.points(2, 3);
+    x.image();
+    String then = Check.state(x);
+    x.setOf(0, 1);
+    x.on();
+    Check.due("SETS", Check.state(x), then);
+    for (int what = 0; what < 4; what++) {
+      x.points(what, 1 - what / 3);
+      x.on();
+      Check.due("POINTS " + what, Check.state(x), then);
+    }
   }
 
   private static void theLastImageCounts() {

@@ -23,7 +23,9 @@ public final class ModelTest {
   public static void main(String[] args) {
     int runs = args.length > 0 ? Integer.parseInt(args[0]) : RUNS;
     for (int run = 0; run < runs; run++) new ModelTest(run).play();
-    new ModelTest(-1).playGreatest();
+    for (int early = 0; early <= 5; early++) {
+      for (int part = 0; part < 2; part++) new ModelTest(-1).playGreatest(early, part);
+    }
     new ModelTest(-2).playLongRest();
     Check.exit("ModelTest");
   }
@@ -41,7 +43,7 @@ public final class ModelTest {
   }
 
   /** Ten times two WORDS and one time three, by WEIGHTS with the greatest numbers below the line. */
-  private void playGreatest() {
+  private void playGreatest(int early, int part) {
     for (int w = 1; w <= 23; w++) {
       int parent = w == 23 ? 19 : (w - 1) / 2 * 2 - 1;
       int answer = w % 2 == 1 && w < 20 ? 0 : 1 + w / 2 % 3;
@@ -50,12 +52,11 @@ public final class ModelTest {
     quiz("ps545:1;pl030:23;pt712:12;pa90:13;");
     due("whole", x.whole(), 1);
     due("setOf", x.setOf(2, 0x555555), m.setOf(2, 0x555555));
-    for (int early = 0; early <= 5; early++) {
-      due("EARLY", x.points(2, early), m.points(2, early));
-      due("RIGHT", x.points(0, 20), m.points(0, 20));
-      due("WRONG", x.points(1, 20 - 4 * early), m.points(1, 20 - 4 * early));
-      compareAllMeans();
-    }
+    due("EARLY", x.points(2, early), m.points(2, early));
+    due("RIGHT", x.points(0, 20), m.points(0, 20));
+    due("WRONG", x.points(1, 20 - 4 * early), m.points(1, 20 - 4 * early));
+    compareAllMeans(part);
+    if (early < 5 || part == 0) return;
     due("reply", x.reply(2, 1), m.reply(2, 1));
     due("law", x.law(100), m.law(100));
     for (int p = 0; p < 4; p++) due("mostEarly", x.mostEarly(p), m.mostEarly(p));
@@ -73,23 +74,19 @@ public final class ModelTest {
     for (int p = 0; p < 2; p++) due("the SET", x.player(p, 4), m.player(p, 4));
   }
 
-  private void compareAllMeans() {
-    long greatest = 0;
-    for (int part = 0; part < 2; part++) {
-      for (int p = 0; p < 4; p++) {
-        due("wins " + p, x.wins(p, part), m.wins(p, part));
-        due("worth " + p, x.worth(p, part), m.worth(p, part));
-        due("alone " + p, x.alone(p), m.alone(p));
-        for (int w = 0; w < 24; w++) due("value " + p + " " + w, x.value(p, w, part), m.value(p, w, part));
-      }
-      for (int w = 0; w < 24; w++) {
-        for (int a = 1; a <= 9; a++) due("chance " + w + " " + a, x.chance(w, a, part), m.chance(w, a, part));
-      }
-      due("nobody", x.nobody(part), m.nobody(part));
-      due("dull", x.dull(part), m.dull(part));
-      greatest = x.chance(0, 3, part);
+  private void compareAllMeans(int part) {
+    for (int p = 0; p < 4; p++) {
+      due("wins " + p, x.wins(p, part), m.wins(p, part));
+      due("worth " + p, x.worth(p, part), m.worth(p, part));
+      due("alone " + p, x.alone(p), m.alone(p));
+      for (int w = 0; w < 24; w++) due("value " + p + " " + w, x.value(p, w, part), m.value(p, w, part));
     }
-    if (greatest < 1_000_000_000_000L) due("a number that is great indeed", greatest, -1);
+    for (int w = 0; w < 24; w++) {
+      for (int a = 1; a <= 9; a++) due("chance " + w + " " + a, x.chance(w, a, part), m.chance(w, a, part));
+    }
+    due("nobody", x.nobody(part), m.nobody(part));
+    due("dull", x.dull(part), m.dull(part));
+    if (x.chance(0, 3, 1) < 1_000_000_000_000L) due("a number that is great indeed", x.chance(0, 3, 1), -1);
   }
 
   private int below(int n) {

@@ -64,7 +64,7 @@ public final class RefusalsTest {
     x.setOf(2, 0b0100);
     x.points(1, 7);
     x.fact(12);
-    Check.feed(x, "w2,1,9;w0,2,2;p");
+    Check.feed(x, "w2,1,9;w0,2,2;");
     x.row(2);
     x.row(9);
     x.row(0);
@@ -73,9 +73,9 @@ public final class RefusalsTest {
 
   /** 24 WORDS, 4 PLAYERS, 5 FACTS, 64 bytes, a ROW of 20. */
   private static BeforeTheEnd full() {
-    BeforeTheEnd x = Check.with("w0,1,0;");
-    for (int w = 2; w <= 23; w++) Check.quiz(x, "w1," + (1 + w % 9) + "," + (1 + w % 4) + ";");
-    Check.quiz(x, "pt10:12;ps260:1;pt00:123;pa30:13;");
+    BeforeTheEnd x = Check.with("w0,1,0;w1,3,3;w1,4,4;w1,5,1;w1,6,2;w1,7,3;w1,8,4;w1,9,1;w1,1,2;",
+        "w1,2,3;w1,3,4;w1,4,1;w1,5,2;w1,6,3;w1,7,4;w1,8,1;w1,9,2;w1,1,3;", "w1,2,4;w1,3,1;w1,4,2;w1,5,3;w1,6,4;",
+        "pt10:12;ps260:1;pt00:123;pa30:13;");
     x.setOf(0, 2);
     for (int i = 0; i < 5; i++) x.fact(62 >> i & 1022);
     x.image();
