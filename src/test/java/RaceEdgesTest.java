@@ -352,6 +352,15 @@ public final class RaceEdgesTest {
     BeforeTheEnd y = Check.with(THIRD, "pe00:1;pe00:2;");
     wins("a third", y, 0, 1, 3);
     wins("two thirds", y, 1, 2, 3);
+    // By WEIGHTS of the whole TREE, from WORD 0 on: 4/6 * 1/2 of ANSWERS 1 and 2, 2/6 * 1/4 of 3, 2/6 * 3/4 of 4.
+    BeforeTheEnd z = Check.with("w0,4,0;w0,2,0;w1,1,1;w1,1,2;w2,3,3;w2,9,4;", "pe00:1;pe00:3;");
+    wins("of the whole TREE", z, 0, 1, 3);
+    wins("of the whole TREE, another one", z, 1, 1, 12);
+    worth("of the whole TREE", z, 0, 10, 3);
+    worth("of the whole TREE, another one", z, 1, 5, 6);
+    Check.mean("NOBODY of the whole TREE", z.nobody(0), z.nobody(1), 7, 12);
+    Check.quiz(z, "ps00:4;");
+    Check.mean("DULL of the whole TREE", z.dull(0), z.dull(1), 2, 3);
   }
 
   private static void worthFromLeastToGreatest() {
