@@ -9,6 +9,7 @@ import com.sun.source.tree.MemberReferenceTree;
 import com.sun.source.tree.MemberSelectTree;
 import com.sun.source.tree.MethodInvocationTree;
 import com.sun.source.tree.MethodTree;
+import com.sun.source.tree.NewArrayTree;
 import com.sun.source.tree.NewClassTree;
 import com.sun.source.tree.SynchronizedTree;
 import com.sun.source.tree.ThrowTree;
@@ -191,7 +192,21 @@ public final class LanguageTest extends TreePathScanner<Void, Void> {
   public Void visitNewClass(NewClassTree tree, Void v) {
     if (tree.getClassBody() != null) fault("an anonymous class at " + place(tree));
     noteCall(here(), tree);
+    lookAtRoom(tree);
     return super.visitNewClass(tree, v);
+  }
+
+  @Override
+  public Void visitNewArray(NewArrayTree tree, Void v) {
+    lookAtRoom(tree);
+    return super.visitNewArray(tree, v);
+  }
+
+  /** All calls of a run live in one room: rows and objects are made with their owner, but for the PLAYERS of a quiz. */
+  private void lookAtRoom(Tree made) {
+    Element maker = enclosingMethod();
+    boolean withOwner = maker == null || maker.getKind() == ElementKind.CONSTRUCTOR;
+    if (!withOwner && !maker.getSimpleName().contentEquals("ofKind")) fault("room is taken by a call at " + place(made));
   }
 
   private void noteCall(Element called, Tree tree) {
